@@ -26,10 +26,7 @@ public final class SecretDays {
     /** A birthday and a name day each. */
     private static final int MOST_DOORS_A_YEAR = 2 * MOST_PERSONS;
     private static final int MOST_DOORS = MOST_DOORS_A_YEAR * YEARS;
-    /** A newcomer stands behind all who are told. */
-    private static final int MOST_SEATS = MOST_PERSONS + 1;
 
-    private final Tape tape;
     private final TownReader reader;
     private final Town theTown;
     private final Doors doors;
@@ -45,8 +42,7 @@ public final class SecretDays {
     private boolean upToDate;
 
     public SecretDays() {
-        tape = new Tape();
-        reader = new TownReader(tape);
+        reader = new TownReader();
         theTown = new Town();
         doors = new Doors(MOST_DOORS_A_YEAR);
         rumours = new Rumour[MOST_SECRETS];
@@ -55,30 +51,28 @@ public final class SecretDays {
         }
         spareRumour = new Rumour();
         letting = new Letting();
-        shutters = new Shutters(doors);
+        shutters = new Shutters();
         colds = new Colds();
         reports = new Reports();
         marks = new Marks();
-        whatIf = new WhatIf(theTown, reports);
-        upToDate = false;
+        whatIf = new WhatIf();
     }
 
     public int feed(long a, long b, long c) {
         putSigns(a);
         putSigns(b);
         putSigns(c);
-        return tape.length;
+        return reader.tape.length;
     }
 
     private void putSigns(long bytes) {
         for (int shift = 56; shift >= 0; shift -= 8) {
-            tape.put((int) (bytes >>> shift) & 255);
+            reader.tape.put((int) (bytes >>> shift) & 255);
         }
     }
 
     public int town() {
         int fault = reader.readTape();
-        tape.wipe();
         if (fault == 0) {
             theTown.copyFrom(reader.draft);
             reports.wipe();
@@ -233,7 +227,7 @@ public final class SecretDays {
             return NONE;
         }
         bringUpToDate();
-        return shutters.fewest(theTown.beginner[secret], theTown.begins[secret], person, by);
+        return shutters.fewest(doors, theTown.beginner[secret], theTown.begins[secret], person, by);
     }
 
     public int meet(int secret, int other, int what) {
@@ -262,7 +256,7 @@ public final class SecretDays {
         if (!isSecret(secret) || !isPerson(person) || !isOneOfTwo(what)) {
             return NONE;
         }
-        whatIf.tryNewcomer(callsOn, calledBy, secret, person);
+        whatIf.tryNewcomer(theTown, callsOn, calledBy, secret, person);
         return what == 0 ? whatIf.bestDate : whatIf.bestDay;
     }
 
@@ -310,7 +304,7 @@ public final class SecretDays {
     public int wrong() {
         int suspects = 0;
         for (int person = 0; person < theTown.persons; person++) {
-            if (whatIf.otherBirthday(person) != NONE) {
+            if (whatIf.otherBirthday(theTown, reports, person) != NONE) {
                 suspects |= 1 << person;
             }
         }
@@ -318,7 +312,7 @@ public final class SecretDays {
     }
 
     public int instead(int person) {
-        return isPerson(person) ? whatIf.otherBirthday(person) : NONE;
+        return isPerson(person) ? whatIf.otherBirthday(theTown, reports, person) : NONE;
     }
 
     public int runs(int seed, int runs, int secret, int person, int by, int what) {
@@ -375,7 +369,7 @@ public final class SecretDays {
             case 6:
                 return reports.size;
             case 7:
-                return tape.length;
+                return reader.tape.length;
             default:
                 return NONE;
         }
@@ -467,9 +461,9 @@ public final class SecretDays {
             place = next;
             if (next >= length) {
                 kind = END;
-            } else if (isLetterNext()) {
+            } else if (isLetter(signs[next])) {
                 takeWord();
-            } else if (isDigitNext()) {
+            } else if (isDigit(signs[next])) {
                 takeNumber();
             } else {
                 kind = signs[next] == ';' ? STOP : NO_TOKEN;
@@ -483,7 +477,7 @@ public final class SecretDays {
 
         private void takeWord() {
             word = 0;
-            while (isLetterNext()) {
+            while (next < length && isLetter(signs[next])) {
                 word = word << 8 | signs[next];
                 next++;
             }
@@ -492,19 +486,19 @@ public final class SecretDays {
 
         private void takeNumber() {
             number = 0;
-            while (isDigitNext()) {
+            while (next < length && isDigit(signs[next])) {
                 number = number * 10 + (signs[next] - '0');
                 next++;
             }
             kind = next - place <= LONGEST_NUMBER ? NUMBER : NO_TOKEN;
         }
 
-        private boolean isLetterNext() {
-            return next < length && signs[next] >= 'a' && signs[next] <= 'z';
+        private static boolean isLetter(int sign) {
+            return sign >= 'a' && sign <= 'z';
         }
 
-        private boolean isDigitNext() {
-            return next < length && signs[next] >= '0' && signs[next] <= '9';
+        private static boolean isDigit(int sign) {
+            return sign >= '0' && sign <= '9';
         }
     }
 
@@ -540,16 +534,13 @@ public final class SecretDays {
         };
 
         final Town draft = new Town();
-        private final Tape tape;
+        final Tape tape = new Tape();
         private final long[] personNames = new long[MOST_PERSONS];
         private final long[] secretNames = new long[MOST_SECRETS];
         private boolean leapTold;
         private int fault;
 
-        TownReader(Tape tape) {
-            this.tape = tape;
-        }
-
+        /** The FAULT, or 0: then draft is what was told. The TAPE is taken. */
         int readTape() {
             draft.empty();
             leapTold = false;
@@ -574,6 +565,7 @@ public final class SecretDays {
                 failIf(tape.kind != Tape.STOP, CANT_STAND);
                 tape.step();
             }
+            tape.wipe();
             return fault;
         }
 
@@ -742,11 +734,11 @@ public final class SecretDays {
     /** A TOWN as it is told, and the law as it is now. */
     private static final class Town {
         int persons;
-        final int[] born = new int[MOST_SEATS];
-        final int[] nameDay = new int[MOST_SEATS];
-        final int[] ill = new int[MOST_SEATS];
-        final int[] callers = new int[MOST_SEATS];
-        final int[] hosts = new int[MOST_SEATS];
+        final int[] born = new int[MOST_PERSONS];
+        final int[] nameDay = new int[MOST_PERSONS];
+        final int[] ill = new int[MOST_PERSONS];
+        final int[] callers = new int[MOST_PERSONS];
+        final int[] hosts = new int[MOST_PERSONS];
         int pairs;
         int aways;
         final int[] awayWho = new int[MOST_AWAY];
@@ -769,11 +761,11 @@ public final class SecretDays {
 
         void copyFrom(Town other) {
             persons = other.persons;
-            System.arraycopy(other.born, 0, born, 0, MOST_SEATS);
-            System.arraycopy(other.nameDay, 0, nameDay, 0, MOST_SEATS);
-            System.arraycopy(other.ill, 0, ill, 0, MOST_SEATS);
-            System.arraycopy(other.callers, 0, callers, 0, MOST_SEATS);
-            System.arraycopy(other.hosts, 0, hosts, 0, MOST_SEATS);
+            System.arraycopy(other.born, 0, born, 0, MOST_PERSONS);
+            System.arraycopy(other.nameDay, 0, nameDay, 0, MOST_PERSONS);
+            System.arraycopy(other.ill, 0, ill, 0, MOST_PERSONS);
+            System.arraycopy(other.callers, 0, callers, 0, MOST_PERSONS);
+            System.arraycopy(other.hosts, 0, hosts, 0, MOST_PERSONS);
             pairs = other.pairs;
             aways = other.aways;
             System.arraycopy(other.awayWho, 0, awayWho, 0, MOST_AWAY);
@@ -787,7 +779,7 @@ public final class SecretDays {
         }
 
         void addPerson(int birthday) {
-            if (persons < MOST_SEATS) {
+            if (persons < MOST_PERSONS) {
                 born[persons] = birthday;
                 nameDay[persons] = NONE;
                 ill[persons] = 0;
@@ -930,10 +922,10 @@ public final class SecretDays {
         private int beginner;
         private int knowers;
         /** The first DATE on which one could tell it: the day after it is had, but for the beginner. */
-        private final int[] ready = new int[MOST_SEATS];
-        final int[] teller = new int[MOST_SEATS];
-        final int[] tellings = new int[MOST_SEATS];
-        final int[] paths = new int[MOST_SEATS];
+        private final int[] ready = new int[MOST_PERSONS];
+        final int[] teller = new int[MOST_PERSONS];
+        final int[] tellings = new int[MOST_PERSONS];
+        final int[] paths = new int[MOST_PERSONS];
 
         /** With last NONE it stays with the beginner. */
         void spread(Doors doors, int person, int from, int last) {
@@ -974,7 +966,7 @@ public final class SecretDays {
                 return;
             }
             knowers |= fresh;
-            for (int person = 0; person < MOST_SEATS; person++) {
+            for (int person = 0; person < MOST_PERSONS; person++) {
                 if (has(fresh, person)) {
                     ready[person] = date + 1;
                 }
@@ -1009,7 +1001,7 @@ public final class SecretDays {
 
         private void traceDoor(Doors doors, int door) {
             int host = doors.hosts[door];
-            for (int person = 0; person < MOST_SEATS; person++) {
+            for (int person = 0; person < MOST_PERSONS; person++) {
                 boolean toldNow = ready[person] == doors.dates[door] + 1 && person != beginner;
                 if (!toldNow || !has(doors.guests[door], person)) {
                     continue;
@@ -1029,8 +1021,8 @@ public final class SecretDays {
         private int forbidden;
         private int forbiddenBefore;
         /** With how many PERSONS one has it at the least when the day begins; 0: one can't have it. */
-        private final int[] company = new int[MOST_SEATS];
-        private final int[] companyBehind = new int[MOST_SEATS];
+        private final int[] company = new int[MOST_PERSONS];
+        private final int[] companyBehind = new int[MOST_PERSONS];
 
         void forbid(int persons, int before) {
             forbidden = persons;
@@ -1047,7 +1039,7 @@ public final class SecretDays {
                 }
                 if (doors.dates[i] != today) {
                     today = doors.dates[i];
-                    System.arraycopy(companyBehind, 0, company, 0, MOST_SEATS);
+                    System.arraycopy(companyBehind, 0, company, 0, MOST_PERSONS);
                 }
                 welcome(doors, i);
             }
@@ -1063,7 +1055,7 @@ public final class SecretDays {
             if (doors.dates[door] < forbiddenBefore) {
                 guests &= ~forbidden;
             }
-            for (int person = 0; person < MOST_SEATS; person++) {
+            for (int person = 0; person < MOST_PERSONS; person++) {
                 boolean better = companyBehind[person] == 0 || companyBehind[person] > sofar + 1;
                 if (has(guests, person) && better) {
                     companyBehind[person] = sofar + 1;
@@ -1080,11 +1072,10 @@ public final class SecretDays {
         private static final int UNSEEN = -2;
         private static final int START = -1;
 
-        private final Doors doors;
         private int first;
         private int behindLast;
         private int target;
-        private final int[] lastDoor = new int[MOST_SEATS];
+        private final int[] lastDoor = new int[MOST_PERSONS];
         private final int[] doorBefore = new int[MOST_DOORS];
         private final boolean[] used = new boolean[MOST_DOORS];
         /** The door that leads to a used one, or START. */
@@ -1093,20 +1084,16 @@ public final class SecretDays {
         private final int[] toFront = new int[MOST_DOORS];
         private final int[] toBack = new int[MOST_DOORS];
         /** Of each PERSON the last door whose front the search has not been led to. */
-        private final int[] unopened = new int[MOST_SEATS];
+        private final int[] unopened = new int[MOST_PERSONS];
         private final int[] queue = new int[2 * MOST_DOORS];
         private int queued;
 
-        Shutters(Doors doors) {
-            this.doors = doors;
-        }
-
-        int fewest(int beginner, int begins, int person, int by) {
+        int fewest(Doors doors, int beginner, int begins, int person, int by) {
             target = person;
-            takeDoors(begins, by);
+            takeDoors(doors, begins, by);
             int ways = 0;
             for (int i = first; i < behindLast; i++) {
-                if (!addWay(beginner, begins)) {
+                if (!addWay(doors, beginner, begins)) {
                     break;
                 }
                 ways++;
@@ -1114,7 +1101,7 @@ public final class SecretDays {
             return ways;
         }
 
-        private void takeDoors(int begins, int by) {
+        private void takeDoors(Doors doors, int begins, int by) {
             first = 0;
             while (first < doors.size && doors.dates[first] < begins) {
                 first++;
@@ -1130,15 +1117,15 @@ public final class SecretDays {
             }
         }
 
-        private boolean addWay(int beginner, int begins) {
+        private boolean addWay(Doors doors, int beginner, int begins) {
             for (int i = first; i < behindLast; i++) {
                 toFront[i] = UNSEEN;
                 toBack[i] = UNSEEN;
             }
-            System.arraycopy(lastDoor, 0, unopened, 0, MOST_SEATS);
+            System.arraycopy(lastDoor, 0, unopened, 0, MOST_PERSONS);
             queued = 0;
-            leadTo(beginner, begins - 1, START);
-            for (int i = 0; i < queued; i++) {
+            leadTo(doors, beginner, begins - 1, START);
+            for (int i = 0; i < queued && i < queue.length; i++) {
                 int door = queue[i] >> 1;
                 boolean back = (queue[i] & 1) != 0;
                 if (back && has(doors.guests[door], target)) {
@@ -1146,7 +1133,7 @@ public final class SecretDays {
                     return true;
                 }
                 if (back) {
-                    goOnFromBack(door);
+                    goOnFromBack(doors, door);
                 } else {
                     goOnFromFront(door);
                 }
@@ -1162,10 +1149,10 @@ public final class SecretDays {
             }
         }
 
-        private void goOnFromBack(int door) {
+        private void goOnFromBack(Doors doors, int door) {
             for (int person = 0; person < MOST_PERSONS; person++) {
                 if (has(doors.guests[door], person)) {
-                    leadTo(person, doors.dates[door], door);
+                    leadTo(doors, person, doors.dates[door], door);
                 }
             }
             if (used[door]) {
@@ -1174,9 +1161,9 @@ public final class SecretDays {
         }
 
         /** One who is told on a DATE has all one's later doors before one. */
-        private void leadTo(int person, int date, int from) {
+        private void leadTo(Doors doors, int person, int date, int from) {
             int door = unopened[person];
-            while (door != NONE && doors.dates[door] > date) {
+            for (int i = 0; i < MOST_DOORS && door != NONE && doors.dates[door] > date; i++) {
                 reachFront(door, from);
                 door = doorBefore[door];
             }
@@ -1184,7 +1171,7 @@ public final class SecretDays {
         }
 
         private void reachFront(int door, int from) {
-            if (toFront[door] == UNSEEN) {
+            if (toFront[door] == UNSEEN && queued < queue.length) {
                 toFront[door] = from;
                 queue[queued] = door << 1;
                 queued++;
@@ -1192,7 +1179,7 @@ public final class SecretDays {
         }
 
         private void reachBack(int door, int from) {
-            if (toBack[door] == UNSEEN) {
+            if (toBack[door] == UNSEEN && queued < queue.length) {
                 toBack[door] = from;
                 queue[queued] = door << 1 | 1;
                 queued++;
@@ -1330,8 +1317,6 @@ public final class SecretDays {
     private static final class WhatIf {
         private static final int UNASKED = -2;
 
-        private final Town town;
-        private final Reports reports;
         private final Town trial = new Town();
         private final Doors rest = new Doors(MOST_DOORS_A_YEAR);
         private final Doors moved = new Doors(1);
@@ -1342,9 +1327,7 @@ public final class SecretDays {
         int bestDate;
         int bestDay;
 
-        WhatIf(Town town, Reports reports) {
-            this.town = town;
-            this.reports = reports;
+        WhatIf() {
             Arrays.fill(otherDay, UNASKED);
         }
 
@@ -1352,8 +1335,9 @@ public final class SecretDays {
             Arrays.fill(otherDay, UNASKED);
         }
 
-        void tryNewcomer(int callsOn, int calledBy, int secret, int person) {
-            copyTown();
+        void tryNewcomer(Town town, int callsOn, int calledBy, int secret, int person) {
+            trial.copyFrom(town);
+            markTurns(town);
             int newcomer = trial.persons;
             trial.addPerson(NONE);
             for (int other = 0; other < newcomer; other++) {
@@ -1382,15 +1366,19 @@ public final class SecretDays {
             }
         }
 
-        int otherBirthday(int person) {
+        int otherBirthday(Town town, Reports reports, int person) {
             if (otherDay[person] == UNASKED) {
-                otherDay[person] = findOtherBirthday(person);
+                otherDay[person] = findOtherBirthday(town, reports, person);
             }
             return otherDay[person];
         }
 
-        private int findOtherBirthday(int person) {
-            copyTown();
+        private int findOtherBirthday(Town town, Reports reports, int person) {
+            trial.copyFrom(town);
+            markTurns(town);
+            for (int i = 0; i < reports.size; i++) {
+                turns[reports.when[i] % DAYS] = true;
+            }
             trial.born[person] = NONE;
             rest.openAll(trial);
             for (int day = 0; day < DAYS; day++) {
@@ -1398,7 +1386,7 @@ public final class SecretDays {
                     continue;
                 }
                 moved.openOne(trial, person, day);
-                if (allAgree()) {
+                if (allAgree(reports)) {
                     return day;
                 }
             }
@@ -1406,7 +1394,7 @@ public final class SecretDays {
         }
 
         /** Whether all REPORTS hold with the doors of the rest and the moved ones. */
-        private boolean allAgree() {
+        private boolean allAgree(Reports reports) {
             for (int secret = 0; secret < trial.secrets; secret++) {
                 int last = reports.lastAbout(secret);
                 if (last == NONE) {
@@ -1420,13 +1408,10 @@ public final class SecretDays {
             return true;
         }
 
-        private void copyTown() {
-            trial.copyFrom(town);
-            markTurns();
-        }
-
-        private void markTurns() {
-            Arrays.fill(turns, false);
+        private void markTurns(Town town) {
+            for (int day = 0; day < DAYS; day++) {
+                turns[day] = false;
+            }
             turns[LEAP_DAY] = true;
             for (int person = 0; person < town.persons; person++) {
                 turns[town.born[person]] = true;
@@ -1440,9 +1425,6 @@ public final class SecretDays {
             }
             for (int secret = 0; secret < town.secrets; secret++) {
                 turns[town.begins[secret] % DAYS] = true;
-            }
-            for (int i = 0; i < reports.size; i++) {
-                turns[reports.when[i] % DAYS] = true;
             }
         }
 

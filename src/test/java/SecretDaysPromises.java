@@ -519,6 +519,8 @@ public final class SecretDaysPromises {
         due(21, "clear", x.clear(), true);
         due(21, "count", x.count(6), 0);
         due(21, "clear again", x.clear(), true);
+        due(21, "nothing speaks against anyone", x.wrong(), 31);
+        due(21, "a on any", x.instead(0), 0);
         due(22, "none", x.holds(), 1);
         due(20, "anew", x.report(3, 0, 14, true), 1);
         due(22, "holds not", x.holds(), 0);
