@@ -1397,9 +1397,6 @@ public final class SecretDays {
         private boolean allAgree(Reports reports) {
             for (int secret = 0; secret < trial.secrets; secret++) {
                 int last = reports.lastAbout(secret);
-                if (last == NONE) {
-                    continue;
-                }
                 rumour.spreadThroughBoth(rest, moved, trial.beginner[secret], trial.begins[secret], last);
                 if (!reports.agree(secret, rumour)) {
                     return false;

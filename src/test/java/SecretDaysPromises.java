@@ -403,6 +403,9 @@ public final class SecretDaysPromises {
             + "calls b on a; calls c on b; calls d on c a; secret s with a from 0 0;");
         due(16, "the long way", x.letIn(0, 3, 299, 0, 0), 4);
         due(16, "the short way", x.letIn(0, 3, 300, 0, 0), 2);
+        x = told("person a born 10; person b born 10; person c born 1; calls b on a; calls c on b; secret s with a from 0 10;");
+        due(16, "told that day it is not told on", x.letIn(0, 2, 375, 0, 0), -1);
+        due(16, "but a year later", x.letIn(0, 2, 376, 0, 0), 3);
     }
 
     private static void cut() {
@@ -425,11 +428,19 @@ public final class SecretDaysPromises {
         // Birthday and name day in one are one door.
         x = told("person a born 10 name 10; person b born 20; calls b on a; secret s with a from 0 0; law names;");
         due(17, "one day, one door", x.cut(0, 1, 10), 1);
-        // A first way found greedily (a, b, t) must be led round: a on 10 by c, a on 15 by b.
-        x = told("person a born 10 name 15; person b born 20; person c born 30; person d born 1; law names; away c from 0 15 to 0 15;"
-            + "calls b on a; calls c on a; calls d on b c; secret s with a from 0 0;");
-        due(17, "two ways apart", x.cut(0, 3, 30), 2);
-        due(17, "one by 20", x.cut(0, 3, 20), 1);
+        // The door of b is there for either door of a: whichever way takes it, the other goes by c.
+        for (String away : new String[] {"10", "15"}) {
+            x = told("person a born 10 name 15; person b born 20; person c born 30; person d born 1; law names;"
+                + "away c from 0 " + away + " to 0 " + away + "; calls b on a; calls c on a; calls d on b c; secret s with a from 0 0;");
+            due(17, "two ways apart, c away on " + away, x.cut(0, 3, 30), 2);
+            due(17, "one by 20, c away on " + away, x.cut(0, 3, 20), 1);
+        }
+        // The shortest way goes by a (10), y, x; the two that stand together by a (10), c, d, e and a (15), b, f, x.
+        x = told("person a born 10 name 15; person y born 20; person c born 21; person b born 22; person d born 30; person f born 31;"
+            + "person e born 40; person x born 60; person t born 1; law names; away b from 0 10 to 0 10; away y from 0 15 to 0 15; away c from 0 15 to 0 15;"
+            + "calls y on a; calls c on a; calls b on a; calls x on y f; calls f on b; calls d on c; calls e on d; calls t on x e; secret s with a from 0 0;");
+        due(17, "y is left again", x.cut(0, 8, 300), 2);
+        due(17, "by e alone", x.cut(0, 8, 59), 1);
     }
 
     private static void meet() {
@@ -550,6 +561,15 @@ public final class SecretDaysPromises {
         due(20, "sixteen", x.count(6), 16);
         due(22, "all hold", x.holds(), 1);
         otherBirthdays();
+        x = chain();
+        x.report(3, 0, 15, true);
+        x.law(true);
+        due(23, "by the law of now", x.began(0), 11);
+        x.law(false);
+        due(23, "without it", x.began(0), 8);
+        due(22, "without it", x.holds(), 0);
+        x.law(true);
+        due(22, "by the law of now", x.holds(), 1);
     }
 
     private static void otherBirthdays() {
@@ -587,6 +607,45 @@ public final class SecretDaysPromises {
         x.report(1, 0, 376, true);
         x.report(1, 0, 375, false);
         due(25, "10 of the next year", x.instead(0), 10);
+        daysThatTurn();
+    }
+
+    /** The first DAY that helps is one that a date told or an absence makes another than the day before. */
+    private static void daysThatTurn() {
+        String ab = "person a born 40; person b born 1; calls b on a;";
+        SecretDays x = told(ab + "secret s with a from 0 50;");
+        x.report(1, 0, 365, true);
+        due(25, "from when it begins", x.instead(0), 50);
+        x.clear();
+        x.report(1, 0, 130, false);
+        due(25, "0, of the next year", x.instead(0), 0);
+        x = told(ab + "secret s with a from 0 0;");
+        x.report(1, 0, 130, false);
+        due(25, "behind the one report", x.instead(0), 131);
+        x = told(ab + "secret r with b from 0 0; secret s with a from 0 50;");
+        x.report(1, 1, 365, true);
+        due(25, "from when it begins, of the second", x.instead(0), 50);
+        for (String more : new String[] {"", "away b from 4 1 to 4 2;"}) {
+            x = told(ab + "secret s with a from 0 50;" + more + "away a from 0 100 to 0 200;");
+            x.report(1, 0, 365, false);
+            x.report(1, 0, 366 + 80, false);
+            due(25, "from when one is away", x.instead(0), 100);
+            x.clear();
+            x.report(1, 0, 150, false);
+            x.report(1, 0, 365, true);
+            due(25, "behind the last day away", x.instead(0), 201);
+            x = told(ab + "secret s with a from 0 50; away b from 0 100 to 0 200;" + more);
+            x.report(1, 0, 365, false);
+            x.report(1, 0, 366 + 80, false);
+            due(25, "from when the caller is away", x.instead(0), 100);
+            x.clear();
+            x.report(1, 0, 150, false);
+            x.report(1, 0, 365, true);
+            due(25, "behind the caller's last day away", x.instead(0), 201);
+        }
+        x = told("person a born 10; person e born 0; secret s with a from 0 0; away e from 0 0 to 0 100;");
+        due(19, "behind the last day away", x.newcomer(1, 2, 0, 1, 0), 101);
+        due(19, "behind the last day away", x.newcomer(1, 2, 0, 1, 1), 101);
     }
 
     /** The draws of seed 1 are 16838, 5758, 10113, 17515, 31051 .. : modulo 100 38, 58, 13, 15, 51. */
@@ -620,6 +679,7 @@ public final class SecretDaysPromises {
             times += had != -1 && had <= 400 ? 1 : 0;
             sum += had != -1 && had <= 400 ? had : 0;
         }
+        due(26, "seed 0, first draw 0: ill", x.runs(0, 1, 0, 1, 10, 0), 0);
         due(26, "seven runs", x.runs(1, 7, 0, 1, 400, 0), times);
         due(26, "their sum", x.runs(1, 7, 0, 1, 400, 1), sum);
         due(26, "runs 0", x.runs(1, 0, 0, 1, 400, 0), -1);
@@ -648,6 +708,7 @@ public final class SecretDaysPromises {
         x.report(3, 0, 15, true);
         x.report(1, 0, 4, false);
         due(27, "laid", x.mark(3, false), true);
+        due(27, "nothing on 1", x.mark(1, true), false);
         x.clear();
         x.report(2, 1, 7, true);
         x.law(false);
@@ -656,6 +717,7 @@ public final class SecretDaysPromises {
         due(27, "law", x.count(5), 1);
         due(27, "reports", x.count(6), 2);
         due(27, "they hold", x.holds(), 1);
+        due(27, "they are about s", x.began(0) * 100 + x.began(1), 931);
         due(27, "soonest by law", x.soonest(0, 3), 15);
         due(27, "the tape is no part of it", x.count(7), 4);
         due(27, "a on 5", x.instead(0), 5);
@@ -668,11 +730,23 @@ public final class SecretDaysPromises {
         due(27, "back to 3 again", x.mark(3, true), true);
         due(27, "reports", x.count(6), 2);
         x.clear();
+        x.report(4, 0, 100, true);
+        due(27, "the first is another one", x.holds(), 0);
+        x.mark(1, false);
+        x.clear();
+        x.report(2, 0, 100, false);
+        x.mark(2, false);
+        x.clear();
+        x.report(2, 0, 100, true);
+        due(27, "1: of e", x.mark(1, true), true);
+        due(27, "1: of e", x.began(0), 24);
+        due(27, "2: knew it not", x.mark(2, true), true);
+        due(27, "2: knew it not", x.began(0), 26);
+        x.clear();
         due(27, "3 laid anew", x.mark(3, false), true);
         due(27, "back to 3", x.mark(3, true), true);
         due(27, "reports", x.count(6), 0);
         due(27, "law", x.count(5), 1);
-        due(27, "nothing on 1", x.mark(1, true), false);
         due(27, "4", x.mark(4, false), false);
         for (int odd : ODD) {
             due(27, "mark " + odd, x.mark(odd, false), false);

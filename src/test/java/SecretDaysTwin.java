@@ -510,6 +510,10 @@ public final class SecretDaysTwin {
             int s = dice.nextInt(m.secrets.size());
             int p = dice.nextInt(m.n);
             int date = Math.min(4391, m.secrets.get(s)[1] + dice.nextInt(dice.nextBoolean() ? 900 : 4000));
+            int had = m.soonest(m.secrets.get(s)[0], m.secrets.get(s)[1])[p];
+            if (had != -1 && i % 2 == 0) {
+                date = Math.max(0, Math.min(4391, had + new int[] {-1, 0, 1, 366}[dice.nextInt(4)]));
+            }
             if (m.n <= 7) {
                 int others = dice.nextInt(1 << m.n) & dice.nextInt(1 << m.n);
                 int before = Math.min(4391, m.secrets.get(s)[1] + dice.nextInt(800));
@@ -538,6 +542,56 @@ public final class SecretDaysTwin {
             due(town, call + 0, x.runs(seed, runs, s, p, by, 0), want[0]);
             due(town, call + 1, x.runs(seed, runs, s, p, by, 1), want[1]);
         }
+    }
+
+    /** Webs of one year in which ways cross: who calls when is drawn for each day by itself. */
+    private static void askWebs(SecretDays x) {
+        int several = 0;
+        for (int seed = 0; seed < 4000; seed++) {
+            Random dice = new Random(seed);
+            Model m = new Model();
+            m.n = 12;
+            m.law = true;
+            StringBuilder text = new StringBuilder("law names;");
+            for (int p = 0; p < 12; p++) {
+                m.born[p] = 20 * p + 10 + dice.nextInt(60);
+                m.name[p] = p < 1 + seed % 3 ? m.born[p] + dice.nextInt(20) : -1;
+                text.append("person ").append(word(p)).append(" born ").append(m.born[p]);
+                text.append(m.name[p] == -1 ? "" : " name " + m.name[p]).append(';');
+            }
+            int[] callers = new int[12];
+            for (int p = 1; p < 12; p++) {
+                StringBuilder on = new StringBuilder();
+                for (int q = 0; q < 12; q++) {
+                    if (q != p && q != 11 && m.born[q] < m.born[p] + 30 && callers[q] < 6 && dice.nextInt(p == 11 ? 3 : 4) == 0) {
+                        m.calls[p][q] = true;
+                        callers[q]++;
+                        on.append(' ').append(word(q));
+                    }
+                }
+                text.append(on.length() == 0 ? "" : "calls " + word(p) + " on" + on + ";");
+            }
+            for (int i = 0; i < 12; i++) {
+                int host = dice.nextInt(3);
+                int day = dice.nextBoolean() && m.name[host] != -1 ? m.name[host] : m.born[host];
+                int p = 1 + dice.nextInt(11);
+                String away = "away " + word(p) + " from 0 " + day + " to 0 " + day + ";";
+                if (text.length() + away.length() < 960) {
+                    m.aways.add(new int[] {p, day, day});
+                    text.append(away);
+                }
+            }
+            m.secrets.add(new int[] {0, 0});
+            text.append("secret za with pa from 0 0;");
+            feedText(x, text.toString());
+            due(text.toString(), "town", x.town(), 0);
+            for (int by = 200; by < 500; by += 50) {
+                int want = m.cutByFlow(0, 11, by);
+                several += want > 1 ? 1 : 0;
+                due(text.toString(), "cut 0 11 " + by, x.cut(0, 11, by), want);
+            }
+        }
+        due("all webs", "some webs hold by several doors", several > 1000 ? 1 : 0, 1);
     }
 
     private static void askReports(SecretDays x, Model m, String town, Random dice, boolean heavy) {
@@ -598,6 +652,7 @@ public final class SecretDaysTwin {
             askDoors(x, m, town + " (law " + m.law + ")", dice);
             askReports(x, m, town + " (law " + m.law + ")", dice, seed % 3 == 1);
         }
+        askWebs(x);
         System.out.println(wrong == 0 ? asked + " answers are as due" : wrong + " answers are not as due");
         if (wrong != 0) {
             System.exit(1);
