@@ -1065,8 +1065,9 @@ public final class SecretDays {
     }
 
     /**
-     * CUT: as many doors must be shut as there are ways that share no door (Menger), so ways are
-     * added, one may lead along another backwards, until no more is found.
+     * CUT: as many doors must be shut as there are ways that share no door (Menger). Ways are added
+     * until none is found; a new one may run into a used door and push the old way back from there,
+     * so each door has a front, where one stands before it, and a back, where one has told.
      */
     private static final class Shutters {
         private static final int UNSEEN = -2;
@@ -1144,7 +1145,8 @@ public final class SecretDays {
         private void goOnFromFront(int door) {
             if (!used[door]) {
                 reachBack(door, door);
-            } else if (cameFrom[door] != START) {
+            } else if (cameFrom[door] >= 0) {
+                // The old way that comes to this door has to go elsewhere from the door before.
                 reachBack(cameFrom[door], door);
             }
         }
@@ -1155,6 +1157,7 @@ public final class SecretDays {
                     leadTo(doors, person, doors.dates[door], door);
                 }
             }
+            // The old way through this door may end before it, and go elsewhere still earlier.
             if (used[door]) {
                 reachFront(door, door);
             }
@@ -1163,7 +1166,7 @@ public final class SecretDays {
         /** One who is told on a DATE has all one's later doors before one. */
         private void leadTo(Doors doors, int person, int date, int from) {
             int door = unopened[person];
-            for (int i = 0; i < MOST_DOORS && door != NONE && doors.dates[door] > date; i++) {
+            for (int i = 0; i < MOST_DOORS && door >= 0 && doors.dates[door] > date; i++) {
                 reachFront(door, from);
                 door = doorBefore[door];
             }
@@ -1189,7 +1192,7 @@ public final class SecretDays {
         /** From the last door back to START: fronts and backs take turns. */
         private void keepWay(int lastOne) {
             int door = lastOne;
-            for (int i = 0; i < MOST_DOORS && door != START; i++) {
+            for (int i = 0; i < MOST_DOORS && door >= 0; i++) {
                 if (toBack[door] == door) {
                     used[door] = true;
                 }

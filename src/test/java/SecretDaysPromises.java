@@ -643,6 +643,12 @@ public final class SecretDaysPromises {
             x.report(1, 0, 365, true);
             due(25, "behind the caller's last day away", x.instead(0), 201);
         }
+        x = told("leap 3;" + ab + "secret s with a from 0 0;");
+        x.report(1, 0, 1100, false);
+        due(25, "on the leap day alone", x.instead(0), 59);
+        x = told("person a born 40; person b born 5 name 100; person c born 1; calls b on a; calls c on b; secret s with a from 0 0; law names;");
+        x.report(2, 0, 200, false);
+        due(25, "from the other's name day", x.instead(0), 100);
         x = told("person a born 10; person e born 0; secret s with a from 0 0; away e from 0 0 to 0 100;");
         due(19, "behind the last day away", x.newcomer(1, 2, 0, 1, 0), 101);
         due(19, "behind the last day away", x.newcomer(1, 2, 0, 1, 1), 101);

