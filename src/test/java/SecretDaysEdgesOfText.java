@@ -524,7 +524,15 @@ public final class SecretDaysEdgesOfText {
             Due.due("holds", x.holds(), 1);
             Due.due("no report about it", x.wrong(), persons);
         }
-        SecretDays x = Due.told("person a born 1;secret s with a from 0 0;");
+        // In the first town a tells b; in the second b does not call on a any more.
+        SecretDays x = Due.told(AB + "person c born 3;calls b on a;secret s with a from 0 0;");
+        Due.due("c is born on any day", x.instead(2), 0);
+        Due.due("anew", Due.read(x, AB + "secret s with a from 0 0;"), 0);
+        x.report(1, 0, 4391, false);
+        Due.due("b never has it", x.soonest(0, 1), -1);
+        Due.due("whenever b is born", x.instead(1), 0);
+        Due.due("whenever a is born", x.instead(0), 0);
+        x = Due.told("person a born 1;secret s with a from 0 0;");
         x.report(0, 0, 0, false);
         Due.due("holds not", x.holds(), 0);
         Due.due("the same again", Due.read(x, "person a born 1;secret s with a from 0 0;"), 0);

@@ -209,17 +209,6 @@ public final class SecretDaysFaults {
         return how == 3 ? text.substring(0, dice.nextInt(text.length() + 1)) : out.toString();
     }
 
-    private static int readByClass(SecretDays x, String text) {
-        for (int i = 0; i < text.length(); i += 24) {
-            long[] part = new long[3];
-            for (int j = 0; j < 24; j++) {
-                part[j / 8] = part[j / 8] << 8 | (i + j < text.length() ? text.charAt(i + j) : 0);
-            }
-            x.feed(part[0], part[1], part[2]);
-        }
-        return x.town();
-    }
-
     public static void main(String[] args) {
         int[] seen = new int[6];
         SecretDays x = new SecretDays();
@@ -232,7 +221,7 @@ public final class SecretDaysFaults {
                 : seed % 9 == 1 ? "person a born 0;person b born 1;secret v with a from 0 0;secret w with a from 0 0;secret x with b from 0 0;" + text.replace("person ", "secret q") : text;
             text = text.length() > 1000 ? text.substring(0, 1000) : text;
             x = seed % 100 == 0 ? new SecretDays() : x;
-            int got = readByClass(x, text);
+            int got = Due.read(x, text);
             int want = new Second().read(text);
             seen[want % 16]++;
             asked++;

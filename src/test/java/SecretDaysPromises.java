@@ -19,24 +19,9 @@ public final class SecretDaysPromises {
         due(promise, call, got ? 1 : 0, want ? 1 : 0);
     }
 
-    private static void feedText(SecretDays x, String text) {
-        for (int i = 0; i < text.length(); i += 24) {
-            long[] part = new long[3];
-            for (int j = 0; j < 24; j++) {
-                part[j / 8] = part[j / 8] << 8 | (i + j < text.length() ? text.charAt(i + j) : 0);
-            }
-            x.feed(part[0], part[1], part[2]);
-        }
-    }
-
-    private static int read(SecretDays x, String text) {
-        feedText(x, text);
-        return x.town();
-    }
-
     private static SecretDays told(String text) {
         SecretDays x = new SecretDays();
-        due(3, text, read(x, text), 0);
+        due(3, text, Due.read(x, text), 0);
         return x;
     }
 
@@ -91,7 +76,7 @@ public final class SecretDaysPromises {
         SecretDays x = told("leap 2; person kept born 7; secret sec with kept from 0 0; law names;");
         x.report(0, 0, 1, true);
         x.mark(2, false);
-        due(3, "[" + text + "]", read(x, text), kind + 16 * place);
+        due(3, "[" + text + "]", Due.read(x, text), kind + 16 * place);
         due(3, "all stays: leap", x.count(4), 2);
         due(3, "all stays: law", x.count(5), 1);
         due(3, "all stays: reports", x.count(6), 1);
@@ -107,15 +92,15 @@ public final class SecretDaysPromises {
         due(3, "persons", x.count(0), 5);
         due(3, "an empty tape", x.town(), 0);
         due(3, "an empty town", x.count(0), 0);
-        due(3, "blanks alone", read(x, " \n "), 0);
-        due(3, "without blanks", read(x, "leap3;person abcdefgh born0365name0ill0099;law\nnames;person b born1;calls b on abcdefgh;secret c with b from0 0;"), 0);
+        due(3, "blanks alone", Due.read(x, " \n "), 0);
+        due(3, "without blanks", Due.read(x, "leap3;person abcdefgh born0365name0ill0099;law\nnames;person b born1;calls b on abcdefgh;secret c with b from0 0;"), 0);
         due(3, "name day 0", x.person(0, 1), 0);
-        due(3, "any order of extras", read(x, "person a born 0 ill 3 name 4;person b born 0;"), 0);
+        due(3, "any order of extras", Due.read(x, "person a born 0 ill 3 name 4;person b born 0;"), 0);
         due(3, "ill", x.person(0, 2), 3);
-        due(3, "calls told in parts", read(x, p + "person c born 3;calls a on b;calls a on c;"), 0);
+        due(3, "calls told in parts", Due.read(x, p + "person c born 3;calls a on b;calls a on c;"), 0);
         due(3, "pairs", x.count(2), 2);
-        due(3, "away of one date", read(x, p + "away a from 0 59 to 0 59;away b from 1 365 to 2 0;"), 0);
-        due(3, "away of dates not there", read(x, p + "away a from 1 59 to 2 59;secret s with b from 3 59;"), 0);
+        due(3, "away of one date", Due.read(x, p + "away a from 0 59 to 0 59;away b from 1 365 to 2 0;"), 0);
+        due(3, "away of dates not there", Due.read(x, p + "away a from 1 59 to 2 59;secret s with b from 3 59;"), 0);
         fault("tell", 1, 0);
         fault("a", 1, 0);
         fault("7", 1, 0);
@@ -193,7 +178,7 @@ public final class SecretDaysPromises {
         for (int i = 1; i <= 6; i++) {
             calls.append("calls ").append((char) ('a' + i)).append(" on a;");
         }
-        due(3, "six call on one", read(x, calls.toString()), 0);
+        due(3, "six call on one", Due.read(x, calls.toString()), 0);
         due(3, "six bits", x.person(0, 3), 126);
         fault(calls + "calls h on b a", 5, calls.length() + 13);
         fault(calls + "calls b on c a", 3, calls.length() + 13);
@@ -202,11 +187,11 @@ public final class SecretDaysPromises {
         for (int i = 0; i < 12; i++) {
             aways.append("away a from 0 0 to 0 0;");
         }
-        due(3, "twelve are away", read(x, aways.toString()), 0);
+        due(3, "twelve are away", Due.read(x, aways.toString()), 0);
         due(3, "twelve times", x.count(3), 12);
         fault(aways + "away", 5, aways.length());
         String secrets = "person a born 0;secret p with a from 0 0;secret q with a from 0 0;secret r with a from 0 0;secret s with a from 0 0;";
-        due(3, "four secrets", read(x, secrets), 0);
+        due(3, "four secrets", Due.read(x, secrets), 0);
         due(3, "four", x.count(1), 4);
         fault(secrets + "secret", 5, secrets.length());
     }
@@ -216,7 +201,7 @@ public final class SecretDaysPromises {
         x.law(true);
         x.report(0, 0, 0, true);
         x.mark(0, false);
-        due(3, "anew", read(x, "person a born 3;"), 0);
+        due(3, "anew", Due.read(x, "person a born 3;"), 0);
         due(3, "reports are gone", x.count(6), 0);
         due(3, "marks are gone", x.mark(0, true), false);
         due(3, "the law is the town's", x.count(5), 0);
@@ -718,7 +703,7 @@ public final class SecretDaysPromises {
         x.clear();
         x.report(2, 1, 7, true);
         x.law(false);
-        feedText(x, "leap");
+        Due.feedText(x, "leap");
         due(27, "back to 3", x.mark(3, true), true);
         due(27, "law", x.count(5), 1);
         due(27, "reports", x.count(6), 2);

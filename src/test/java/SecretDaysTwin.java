@@ -4,8 +4,7 @@ import java.util.List;
 import java.util.Random;
 
 /**
- * Draws towns and asks the class and a plain model the same. The model is written from the document
- * anew: it goes DATE by DATE and tries all DAYS, all sets of guests, all sets of doors.
+ * Draws towns and asks the class and the plain town of src/test/help the same.
  */
 public final class SecretDaysTwin {
     private static int wrong = 0;
@@ -21,351 +20,6 @@ public final class SecretDaysTwin {
         }
     }
 
-    /** The town of the document, as plainly as can be. */
-    private static final class Model {
-        int leap;
-        boolean law;
-        int n;
-        int[] born = new int[13];
-        int[] name = new int[13];
-        int[] ill = new int[13];
-        boolean[][] calls = new boolean[13][13];
-        List<int[]> aways = new ArrayList<>();
-        List<int[]> secrets = new ArrayList<>();
-        List<int[]> reports = new ArrayList<>();
-
-        boolean there(int date) {
-            return date % 366 != 59 || (date / 366) % 4 == leap;
-        }
-
-        boolean away(int p, int date) {
-            for (int[] a : aways) {
-                if (a[0] == p && a[1] <= date && date <= a[2]) {
-                    return true;
-                }
-            }
-            return false;
-        }
-
-        boolean free(int p, int date) {
-            int day = date % 366;
-            return there(date) && (born[p] == day || law && name[p] == day) && !away(p, date);
-        }
-
-        /** DATES on which anybody is free, so that the plain walk does not take all day. */
-        int[] dates() {
-            int[] all = new int[4392];
-            int size = 0;
-            for (int date = 0; date < 4392; date++) {
-                boolean any = false;
-                for (int p = 0; p < n; p++) {
-                    any |= free(p, date);
-                }
-                if (any) {
-                    all[size++] = date;
-                }
-            }
-            return Arrays.copyOf(all, size);
-        }
-
-        int[] soonest(int beginner, int begins) {
-            return soonest(beginner, begins, dates(), null, 0xfff | 1 << 12, 0, 0);
-        }
-
-        /** Only guests of a set are let in, some of them not ahead of a DATE; shut are PERSON and DATE. */
-        int[] soonest(int beginner, int begins, int[] dates, List<int[]> shut, int set, int others, int before) {
-            int[] had = new int[n];
-            Arrays.fill(had, -1);
-            had[beginner] = begins;
-            for (int date : dates) {
-                boolean[] tells = new boolean[n];
-                for (int p = 0; p < n; p++) {
-                    boolean knew = had[p] != -1 && (had[p] < date || p == beginner && had[p] <= date);
-                    tells[p] = knew && free(p, date) && !isShut(shut, p, date);
-                }
-                for (int p = 0; p < n; p++) {
-                    for (int q = 0; q < n && tells[p]; q++) {
-                        boolean letIn = (set >> q & 1) != 0 && !((others >> q & 1) != 0 && date < before);
-                        if (calls[q][p] && !away(q, date) && had[q] == -1 && letIn) {
-                            had[q] = date;
-                        }
-                    }
-                }
-            }
-            return had;
-        }
-
-        static boolean isShut(List<int[]> shut, int p, int date) {
-            if (shut != null) {
-                for (int[] s : shut) {
-                    if (s[0] == p && s[1] == date) {
-                        return true;
-                    }
-                }
-            }
-            return false;
-        }
-
-        List<Integer> tellers(int s, int p, int[] had) {
-            List<Integer> list = new ArrayList<>();
-            int beginner = secrets.get(s)[0];
-            if (p == beginner || had[p] == -1) {
-                return list;
-            }
-            for (int q = 0; q < n; q++) {
-                boolean knew = had[q] != -1 && (had[q] < had[p] || q == beginner && had[q] <= had[p]);
-                if (knew && free(q, had[p]) && calls[p][q]) {
-                    list.add(q);
-                }
-            }
-            return list;
-        }
-
-        int hands(int s, int p, int[] had) {
-            if (had[p] == -1) {
-                return -1;
-            }
-            return p == secrets.get(s)[0] ? 0 : 1 + hands(s, tellers(s, p, had).get(0), had);
-        }
-
-        long ways(int s, int p, int[] had) {
-            if (p == secrets.get(s)[0]) {
-                return 1;
-            }
-            long sum = 0;
-            for (int q : tellers(s, p, had)) {
-                sum += ways(s, q, had);
-            }
-            return sum % 1000000007L;
-        }
-
-        int letIn(int s, int person, int by, int others, int before) {
-            int[] secret = secrets.get(s);
-            if ((others >> secret[0] & 1) != 0 && secret[1] < before) {
-                return -1;
-            }
-            int best = -1;
-            int[] dates = dates();
-            for (int set = 0; set < 1 << n; set++) {
-                int[] had = soonest(secret[0], secret[1], dates, null, set, others, before);
-                int have = 0;
-                for (int p = 0; p < n; p++) {
-                    have += had[p] != -1 && had[p] <= by ? 1 : 0;
-                }
-                if (had[person] != -1 && had[person] <= by && (best == -1 || have < best)) {
-                    best = have;
-                }
-            }
-            return best;
-        }
-
-        /** All doors that can matter, none, one, two .. of them shut. */
-        int cutByTrying(int s, int person, int by) {
-            List<int[]> doors = new ArrayList<>();
-            int[] secret = secrets.get(s);
-            int[] had = soonest(secret[0], secret[1]);
-            for (int date = 0; date <= by; date++) {
-                for (int p = 0; p < n; p++) {
-                    if (p != person && free(p, date) && had[p] != -1 && had[p] <= date) {
-                        doors.add(new int[] {p, date});
-                    }
-                }
-            }
-            if (doors.size() > 11) {
-                return -2;
-            }
-            int best = doors.size();
-            int[] dates = dates();
-            for (int set = 0; set < 1 << doors.size(); set++) {
-                if (Integer.bitCount(set) >= best) {
-                    continue;
-                }
-                List<int[]> shut = new ArrayList<>();
-                for (int i = 0; i < doors.size(); i++) {
-                    if ((set >> i & 1) != 0) {
-                        shut.add(doors.get(i));
-                    }
-                }
-                int date = soonest(secret[0], secret[1], dates, shut, 0xfff, 0, 0)[person];
-                if (date == -1 || date > by) {
-                    best = shut.size();
-                }
-            }
-            return best;
-        }
-
-        /** A flow over PERSONS between DATES, each door an edge of one, by depth-first search. */
-        int cutByFlow(int s, int person, int by) {
-            int[] secret = secrets.get(s);
-            List<int[]> doors = new ArrayList<>();
-            for (int date = secret[1]; date <= by; date++) {
-                for (int p = 0; p < n; p++) {
-                    if (free(p, date)) {
-                        doors.add(new int[] {p, date});
-                    }
-                }
-            }
-            int m = doors.size();
-            int[][] room = new int[2 * m + 2][2 * m + 2];
-            int source = 2 * m;
-            int sink = 2 * m + 1;
-            for (int i = 0; i < m; i++) {
-                int p = doors.get(i)[0];
-                int date = doors.get(i)[1];
-                room[2 * i][2 * i + 1] = 1;
-                if (p == secret[0]) {
-                    room[source][2 * i] = 1000;
-                }
-                if (calls[person][p] && !away(person, date)) {
-                    room[2 * i + 1][sink] = 1000;
-                }
-                for (int j = 0; j < m; j++) {
-                    int q = doors.get(j)[0];
-                    if (doors.get(j)[1] > date && calls[q][p] && !away(q, date)) {
-                        room[2 * i + 1][2 * j] = 1000;
-                    }
-                }
-            }
-            int flow = 0;
-            while (push(room, source, sink, new boolean[2 * m + 2])) {
-                flow++;
-            }
-            return flow;
-        }
-
-        static boolean push(int[][] room, int at, int sink, boolean[] seen) {
-            if (at == sink) {
-                return true;
-            }
-            seen[at] = true;
-            for (int next = 0; next < room.length; next++) {
-                if (room[at][next] > 0 && !seen[next] && push(room, next, sink, seen)) {
-                    room[at][next]--;
-                    room[next][at]++;
-                    return true;
-                }
-            }
-            return false;
-        }
-
-        int[] meet(int s, int other) {
-            int[] one = soonest(secrets.get(s)[0], secrets.get(s)[1]);
-            int[] two = soonest(secrets.get(other)[0], secrets.get(other)[1]);
-            for (int date = 0; date < 4392; date++) {
-                for (int p = 0; p < n; p++) {
-                    if (one[p] != -1 && two[p] != -1 && one[p] <= date && two[p] <= date) {
-                        return new int[] {date, p};
-                    }
-                }
-            }
-            return new int[] {-1, -1};
-        }
-
-        int[] newcomer(int callsOn, int calledBy, int s, int person) {
-            int best = -1;
-            int bestDay = -1;
-            n++;
-            name[n - 1] = -1;
-            for (int p = 0; p < n - 1; p++) {
-                calls[n - 1][p] = (callsOn >> p & 1) != 0;
-                calls[p][n - 1] = (calledBy >> p & 1) != 0;
-            }
-            for (int day = 0; day < 366; day++) {
-                born[n - 1] = day;
-                int date = soonest(secrets.get(s)[0], secrets.get(s)[1])[person];
-                if (date != -1 && (best == -1 || date < best)) {
-                    best = date;
-                    bestDay = day;
-                }
-            }
-            for (int p = 0; p < n; p++) {
-                calls[n - 1][p] = false;
-                calls[p][n - 1] = false;
-            }
-            n--;
-            return new int[] {best, bestDay};
-        }
-
-        boolean holds(int s, int beginner) {
-            int[] had = soonest(beginner, secrets.get(s)[1]);
-            for (int[] r : reports) {
-                boolean knew = had[r[0]] != -1 && had[r[0]] <= r[2];
-                if (r[1] == s && knew != (r[3] == 1)) {
-                    return false;
-                }
-            }
-            return true;
-        }
-
-        boolean holds() {
-            for (int s = 0; s < secrets.size(); s++) {
-                if (!holds(s, secrets.get(s)[0])) {
-                    return false;
-                }
-            }
-            return true;
-        }
-
-        int began(int s) {
-            int bits = 0;
-            for (int p = 0; p < n; p++) {
-                bits |= holds(s, p) ? 1 << p : 0;
-            }
-            return bits;
-        }
-
-        int instead(int p) {
-            int old = born[p];
-            int found = -1;
-            for (int day = 0; day < 366 && found == -1; day++) {
-                born[p] = day;
-                if (day != old && holds()) {
-                    found = day;
-                }
-            }
-            born[p] = old;
-            return found;
-        }
-
-        int[] runs(int seed, int runs, int s, int person, int by) {
-            long g = seed;
-            int times = 0;
-            int sum = 0;
-            for (int run = 0; run < runs; run++) {
-                int[] had = new int[n];
-                Arrays.fill(had, -1);
-                for (int date = 0; date < 4392; date++) {
-                    if (date >= secrets.get(s)[1]) {
-                        had[secrets.get(s)[0]] = secrets.get(s)[1];
-                    }
-                    boolean[] knew = new boolean[n];
-                    for (int p = 0; p < n; p++) {
-                        knew[p] = had[p] != -1;
-                    }
-                    for (int p = 0; p < n; p++) {
-                        if (!free(p, date)) {
-                            continue;
-                        }
-                        g = (g * 1103515245L + 12345L) & 0x7fffffffL;
-                        if (g / 65536 % 100 < ill[p]) {
-                            continue;
-                        }
-                        for (int q = 0; q < n; q++) {
-                            if (knew[p] && calls[q][p] && !away(q, date) && had[q] == -1) {
-                                had[q] = date;
-                            }
-                        }
-                    }
-                }
-                if (had[person] != -1 && had[person] <= by) {
-                    times++;
-                    sum += had[person];
-                }
-            }
-            return new int[] {times, sum};
-        }
-    }
-
     private static String word(int number) {
         return "" + (char) ('p' + number / 10) + (char) ('a' + number % 10);
     }
@@ -375,7 +29,7 @@ public final class SecretDaysTwin {
         return dice.nextInt(4) == 0 ? dice.nextInt(366) : some[dice.nextInt(some.length)];
     }
 
-    private static String draw(Model m, Random dice, int most) {
+    private static String draw(PlainTown m, Random dice, int most) {
         StringBuilder text = new StringBuilder();
         int[] some = {0, 58, 59, 60, 365, dice.nextInt(366), dice.nextInt(366), dice.nextInt(366), dice.nextInt(366)};
         if (dice.nextBoolean()) {
@@ -439,18 +93,7 @@ public final class SecretDaysTwin {
         return text.toString();
     }
 
-    private static void feedText(SecretDays x, String text) {
-        for (int i = 0; i < text.length(); i += 24) {
-            long[] part = new long[3];
-            for (int j = 0; j < 24; j++) {
-                int sign = i + j < text.length() ? text.charAt(i + j) : 0;
-                part[j / 8] = part[j / 8] << 8 | sign;
-            }
-            x.feed(part[0], part[1], part[2]);
-        }
-    }
-
-    private static void askDays(SecretDays x, Model m, String town, Random dice) {
+    private static void askDays(SecretDays x, PlainTown m, String town, Random dice) {
         for (int i = 0; i < 40; i++) {
             int year = dice.nextInt(12);
             int day = dice.nextInt(3) == 0 ? 59 : m.born[dice.nextInt(m.n)];
@@ -474,7 +117,7 @@ public final class SecretDaysTwin {
         }
     }
 
-    private static void askSpread(SecretDays x, Model m, String town, Random dice) {
+    private static void askSpread(SecretDays x, PlainTown m, String town, Random dice) {
         for (int s = 0; s < m.secrets.size(); s++) {
             int[] had = m.soonest(m.secrets.get(s)[0], m.secrets.get(s)[1]);
             int all = 0;
@@ -505,7 +148,7 @@ public final class SecretDaysTwin {
         }
     }
 
-    private static void askDoors(SecretDays x, Model m, String town, Random dice) {
+    private static void askDoors(SecretDays x, PlainTown m, String town, Random dice) {
         for (int i = 0; i < 6; i++) {
             int s = dice.nextInt(m.secrets.size());
             int p = dice.nextInt(m.n);
@@ -549,7 +192,7 @@ public final class SecretDaysTwin {
         int several = 0;
         for (int seed = 0; seed < 4000; seed++) {
             Random dice = new Random(seed);
-            Model m = new Model();
+            PlainTown m = new PlainTown();
             m.n = 12;
             m.law = true;
             StringBuilder text = new StringBuilder("law names;");
@@ -583,7 +226,7 @@ public final class SecretDaysTwin {
             }
             m.secrets.add(new int[] {0, 0});
             text.append("secret za with pa from 0 0;");
-            feedText(x, text.toString());
+            Due.feedText(x, text.toString());
             due(text.toString(), "town", x.town(), 0);
             for (int by = 200; by < 500; by += 50) {
                 int want = m.cutByFlow(0, 11, by);
@@ -634,8 +277,8 @@ public final class SecretDaysTwin {
             + "away i from 1 182 to 1 182;"
     };
 
-    private static Model fromText(String text) {
-        Model m = new Model();
+    private static PlainTown fromText(String text) {
+        PlainTown m = new PlainTown();
         for (String sentence : text.split(";")) {
             String[] words = sentence.split(" ");
             int who = words.length > 1 ? words[1].charAt(0) - 'a' : 0;
@@ -661,8 +304,8 @@ public final class SecretDaysTwin {
 
     private static void askKnots(SecretDays x) {
         for (String text : KNOTS) {
-            Model m = fromText(text);
-            feedText(x, text);
+            PlainTown m = fromText(text);
+            Due.feedText(x, text);
             due(text, "town", x.town(), 0);
             for (int by = 0; by < 1200; by += 20) {
                 due(text, "cut 0 " + (m.n - 1) + " " + by, x.cut(0, m.n - 1, by), m.cutByFlow(0, m.n - 1, by));
@@ -670,7 +313,7 @@ public final class SecretDaysTwin {
         }
     }
 
-    private static void askReports(SecretDays x, Model m, String town, Random dice, boolean heavy) {
+    private static void askReports(SecretDays x, PlainTown m, String town, Random dice, boolean heavy) {
         int count = dice.nextInt(5);
         for (int i = 0; i < count; i++) {
             int s = dice.nextInt(m.secrets.size());
@@ -711,14 +354,14 @@ public final class SecretDaysTwin {
         SecretDays x = new SecretDays();
         for (int seed = 0; seed < towns; seed++) {
             Random dice = new Random(seed);
-            Model m = new Model();
+            PlainTown m = new PlainTown();
             String town = draw(m, dice, seed % 5 == 0 ? 12 : 6);
             while (town.length() > 1000) {
-                m = new Model();
+                m = new PlainTown();
                 town = draw(m, dice, 10);
             }
             x = seed % 3 == 0 ? new SecretDays() : x;
-            feedText(x, town);
+            Due.feedText(x, town);
             due(town, "town", x.town(), 0);
             askDays(x, m, town, dice);
             askSpread(x, m, town, dice);
