@@ -1191,19 +1191,22 @@ public final class SecretDays {
 
         /** From the last door back to START: fronts and backs take turns. */
         private void keepWay(int lastOne) {
-            int door = lastOne;
-            for (int i = 0; i < MOST_DOORS && door >= 0; i++) {
-                if (toBack[door] == door) {
-                    used[door] = true;
+            int back = lastOne;
+            for (int i = 0; i < MOST_DOORS && back >= 0; i++) {
+                int front = toBack[back];
+                if (front < 0) {
+                    return;
                 }
-                door = toBack[door];
-                int from = toFront[door];
-                if (from == door) {
-                    used[door] = false;
+                if (front == back) {
+                    used[back] = true;
+                }
+                int from = toFront[front];
+                if (from == front) {
+                    used[front] = false;
                 } else {
-                    cameFrom[door] = from;
+                    cameFrom[front] = from;
                 }
-                door = from;
+                back = from;
             }
         }
     }

@@ -14,6 +14,11 @@ public final class SecretDaysEdgesOfPlans {
 
     private static void letIn() {
         SecretDays x = square();
+        Due.says("LET IN: each teller may let in whom it will of those who call,");
+        Due.due("who does not call is not let in", x.letIn(1, 2, LAST, 0, 0), -1);
+        Due.due("c alone of both", x.letIn(0, 2, 10, 2, LAST), 2);
+        Due.due("b alone of both", x.letIn(0, 1, 10, 4, LAST), 2);
+        Due.due("b not on 10 of this year, but of the next", x.letIn(0, 1, YEAR + 10, 2, 11), 2);
         Due.says("so that a PERSON has a SECRET by a DATE (that one too),");
         Due.due("on the DATE", x.letIn(0, 3, 20, 0, 0), 3);
         Due.due("a day ahead", x.letIn(0, 3, 19, 0, 0), -1);

@@ -196,7 +196,14 @@ public final class SecretDaysEdgesOfText {
                 Due.due("sign " + sign + " for the end", Due.read(new SecretDays(), "leap 1;" + (char) sign), 1 + 16 * 7);
             }
         }
+        Due.says("the sign ;");
+        Due.faultAt("^;", 1);
         Due.faultAt("leap 1;^;", 1);
+        Due.faultAt("leap 1; ^; leap 4", 1);
+        Due.faultAt("leap^;1;", 1);
+        Due.faultAt("leap 1 ^law names;", 1);
+        Due.faultAt("person a born 1 ^person b born 2;", 1);
+        Due.told("leap 1;law names;person a born 1;person b born 2 name 3;calls a on b;");
     }
 
     private static void leapAndLaw() {

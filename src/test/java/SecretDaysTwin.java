@@ -274,7 +274,37 @@ public final class SecretDaysTwin {
             + "secret zz with a from 0 0;away k from 0 228 to 0 228;away h from 0 44 to 0 44;away h from 1 44 to 1 44;"
             + "away h from 1 44 to 1 44;away h from 1 44 to 1 44;away i from 1 126 to 1 126;away f from 1 75 to 1 75;"
             + "away k from 0 192 to 0 192;away k from 1 75 to 1 75;away f from 0 75 to 0 75;away c from 0 162 to 0 162;"
-            + "away i from 1 182 to 1 182;"
+            + "away i from 1 182 to 1 182;",
+        "law names;person a born 164 name 197;person b born 221 name 279;person c born 274 name 312;"
+            + "person d born 228 name 288;person e born 265;person f born 174;person g born 223;person h born 207;"
+            + "person i born 263;person j born 237;person k born 222;person l born 276;calls b on i;calls c on a e h j;"
+            + "calls d on c;calls e on b h j;calls f on a b h j;calls g on b j;calls h on d;calls i on d;calls j on e;"
+            + "calls k on e f g;calls l on f g;secret zz with a from 0 0;away c from 2 223 to 2 223;away k from 1 222 to 1 222;"
+            + "away k from 0 265 to 0 265;away b from 1 222 to 1 222;away f from 0 174 to 0 174;away e from 1 312 to 1 312;"
+            + "away l from 2 174 to 2 174;away c from 0 164 to 0 164;away k from 2 197 to 2 197;away e from 0 276 to 0 276;"
+            + "away h from 1 174 to 1 174;away h from 0 312 to 0 312;",
+        "law names;person a born 43 name 92;person b born 75;person c born 72;person d born 111;person e born 86;"
+            + "person f born 107 name 156;person g born 99;person h born 92 name 122;person i born 72 name 127;"
+            + "person j born 109 name 123;person k born 120 name 154;person l born 102 name 148;calls b on d g;calls c on a d j k;"
+            + "calls d on c g;calls e on b d h j;calls f on e i k;calls g on a j;calls h on c d i;calls i on d h;"
+            + "calls j on b c d e i;calls k on e;calls l on f;secret zz with a from 0 0;away e from 0 72 to 0 72;"
+            + "away i from 2 111 to 2 111;away e from 1 154 to 1 154;away d from 2 92 to 2 92;away j from 0 156 to 2 156;"
+            + "away k from 2 120 to 2 120;away f from 1 99 to 1 99;away d from 2 86 to 2 86;away i from 1 75 to 1 75;"
+            + "away j from 0 72 to 2 72;away c from 1 86 to 1 86;away k from 0 75 to 0 75;",
+        "law names;person a born 134 name 187;person b born 248;person c born 191;person d born 194 name 247;"
+            + "person e born 205;person f born 271;person g born 202;person h born 172;person i born 198 name 216;calls b on a c e;"
+            + "calls c on b e;calls d on e f;calls e on b c h;calls f on e g h;calls g on a b d h;calls h on b c d e;calls i on d;"
+            + "secret zz with a from 0 0;away i from 0 187 to 0 187;away d from 2 202 to 2 202;away c from 0 205 to 0 205;"
+            + "away c from 0 198 to 0 198;away g from 0 172 to 0 172;away e from 2 194 to 2 194;away e from 1 194 to 2 194;"
+            + "away h from 0 191 to 1 191;away i from 2 271 to 2 271;away d from 2 205 to 2 205;away g from 2 202 to 2 202;"
+            + "away b from 2 194 to 2 194;",
+        "law names;person a born 106 name 107;person b born 155;person c born 165 name 171;person d born 117 name 161;"
+            + "person e born 125;person f born 189 name 242;person g born 192 name 206;person h born 182;person i born 183;"
+            + "person j born 163 name 167;calls b on a d;calls c on g;calls d on a b c e f g;calls e on b g h;calls f on a c h;"
+            + "calls g on a e f i;calls h on a b d g;calls i on e g;calls j on c;secret zz with a from 0 0;"
+            + "away f from 0 183 to 0 183;away h from 1 117 to 1 117;away h from 1 242 to 1 242;away h from 0 155 to 0 155;"
+            + "away e from 0 107 to 2 107;away g from 2 183 to 2 183;away e from 1 155 to 1 155;away h from 2 155 to 2 155;"
+            + "away f from 0 183 to 0 183;away g from 2 106 to 3 106;away g from 0 189 to 0 189;away c from 2 117 to 2 117;"
     };
 
     private static PlainTown fromText(String text) {
@@ -308,6 +338,9 @@ public final class SecretDaysTwin {
             Due.feedText(x, text);
             due(text, "town", x.town(), 0);
             for (int by = 0; by < 1200; by += 20) {
+                due(text, "cut 0 " + (m.n - 1) + " " + by, x.cut(0, m.n - 1, by), m.cutByFlow(0, m.n - 1, by));
+            }
+            for (int by = 2000; by <= 4391; by += 797) {
                 due(text, "cut 0 " + (m.n - 1) + " " + by, x.cut(0, m.n - 1, by), m.cutByFlow(0, m.n - 1, by));
             }
         }
