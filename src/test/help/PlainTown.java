@@ -18,6 +18,23 @@ final class PlainTown {
     List<int[]> secrets = new ArrayList<>();
     List<int[]> reports = new ArrayList<>();
 
+    PlainTown copy() {
+        PlainTown other = new PlainTown();
+        other.leap = leap;
+        other.law = law;
+        other.n = n;
+        other.born = born.clone();
+        other.name = name.clone();
+        other.ill = ill.clone();
+        for (int p = 0; p < calls.length; p++) {
+            other.calls[p] = calls[p].clone();
+        }
+        other.aways = new ArrayList<>(aways);
+        other.secrets = new ArrayList<>(secrets);
+        other.reports = new ArrayList<>(reports);
+        return other;
+    }
+
     boolean there(int date) {
         return date % 366 != 59 || (date / 366) % 4 == leap;
     }
@@ -38,11 +55,16 @@ final class PlainTown {
 
     /** DATES on which anybody is free, so that the plain walk does not take all day. */
     int[] dates() {
+        boolean[] feast = new boolean[366];
+        for (int p = 0; p < n; p++) {
+            feast[born[p]] = true;
+            feast[name[p] == -1 ? born[p] : name[p]] = true;
+        }
         int[] all = new int[4392];
         int size = 0;
         for (int date = 0; date < 4392; date++) {
             boolean any = false;
-            for (int p = 0; p < n; p++) {
+            for (int p = 0; p < n && feast[date % 366]; p++) {
                 any |= free(p, date);
             }
             if (any) {

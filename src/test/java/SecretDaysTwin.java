@@ -1,5 +1,3 @@
-import java.util.ArrayList;
-import java.util.Arrays;
 import java.util.List;
 import java.util.Random;
 
@@ -18,79 +16,6 @@ public final class SecretDaysTwin {
                 System.out.println(town + "\n  " + call + " answered " + got + ", due is " + want);
             }
         }
-    }
-
-    private static String word(int number) {
-        return "" + (char) ('p' + number / 10) + (char) ('a' + number % 10);
-    }
-
-    /** Draws from few DAYS, so that they fall together, with the edges of the year among them. */
-    private static int drawDay(Random dice, int[] some) {
-        return dice.nextInt(4) == 0 ? dice.nextInt(366) : some[dice.nextInt(some.length)];
-    }
-
-    private static String draw(PlainTown m, Random dice, int most) {
-        StringBuilder text = new StringBuilder();
-        int[] some = {0, 58, 59, 60, 365, dice.nextInt(366), dice.nextInt(366), dice.nextInt(366), dice.nextInt(366)};
-        if (dice.nextBoolean()) {
-            m.leap = dice.nextInt(4);
-            text.append("leap ").append(m.leap).append(';');
-        }
-        m.n = 1 + dice.nextInt(most);
-        for (int p = 0; p < m.n; p++) {
-            m.born[p] = drawDay(dice, some);
-            m.name[p] = -1;
-            text.append("person ").append(word(p)).append(" born ").append(m.born[p]);
-            if (dice.nextInt(3) == 0) {
-                m.ill[p] = dice.nextInt(100);
-                text.append("ill ").append(m.ill[p]);
-            }
-            if (dice.nextBoolean()) {
-                m.name[p] = drawDay(dice, some);
-                text.append(" name ").append(m.name[p]);
-            }
-            text.append(";\n");
-        }
-        int dense = 1 + dice.nextInt(4);
-        for (int p = 0; p < m.n; p++) {
-            StringBuilder on = new StringBuilder();
-            for (int q = 0; q < m.n; q++) {
-                int callers = 0;
-                for (int r = 0; r < m.n; r++) {
-                    callers += m.calls[r][q] ? 1 : 0;
-                }
-                if (p != q && callers < 6 && dice.nextInt(dense + 1) == 0) {
-                    m.calls[p][q] = true;
-                    on.append(' ').append(word(q));
-                }
-            }
-            if (on.length() > 0) {
-                text.append("calls ").append(word(p)).append(" on").append(on).append(';');
-            }
-        }
-        int aways = dice.nextInt(3) == 0 ? 0 : dice.nextInt(6);
-        for (int i = 0; i < aways; i++) {
-            int from = dice.nextInt(5) * 366 + drawDay(dice, some);
-            int to = Math.min(4391, dice.nextBoolean() ? from + dice.nextInt(3) : from / 366 * 366 + dice.nextInt(1500));
-            to = Math.max(from, to);
-            int p = dice.nextInt(m.n);
-            m.aways.add(new int[] {p, from, to});
-            text.append("away ").append(word(p)).append(" from ").append(from / 366).append(' ').append(from % 366)
-                .append(" to ").append(to / 366).append(' ').append(to % 366).append(';');
-        }
-        int secrets = 1 + dice.nextInt(4);
-        for (int s = 0; s < secrets; s++) {
-            int p = dice.nextInt(m.n);
-            int from = (dice.nextInt(6) == 0 ? dice.nextInt(12) : dice.nextInt(2)) * 366 + drawDay(dice, some);
-            m.secrets.add(new int[] {p, from});
-            text.append("secret ").append("z").append((char) ('a' + s)).append(" with ").append(word(p)).append(" from ")
-                .append(from / 366).append(' ').append(from % 366).append(';');
-        }
-        if (dice.nextBoolean()) {
-            m.law = true;
-            text.append("law names;");
-        }
-        return text.toString();
     }
 
     private static void askDays(SecretDays x, PlainTown m, String town, Random dice) {
@@ -199,7 +124,7 @@ public final class SecretDaysTwin {
             for (int p = 0; p < 12; p++) {
                 m.born[p] = 20 * p + 10 + dice.nextInt(60);
                 m.name[p] = p < 1 + seed % 3 ? m.born[p] + dice.nextInt(20) : -1;
-                text.append("person ").append(word(p)).append(" born ").append(m.born[p]);
+                text.append("person ").append(Drawn.word(p)).append(" born ").append(m.born[p]);
                 text.append(m.name[p] == -1 ? "" : " name " + m.name[p]).append(';');
             }
             int[] callers = new int[12];
@@ -209,16 +134,16 @@ public final class SecretDaysTwin {
                     if (q != p && q != 11 && m.born[q] < m.born[p] + 30 && callers[q] < 6 && dice.nextInt(p == 11 ? 3 : 4) == 0) {
                         m.calls[p][q] = true;
                         callers[q]++;
-                        on.append(' ').append(word(q));
+                        on.append(' ').append(Drawn.word(q));
                     }
                 }
-                text.append(on.length() == 0 ? "" : "calls " + word(p) + " on" + on + ";");
+                text.append(on.length() == 0 ? "" : "calls " + Drawn.word(p) + " on" + on + ";");
             }
             for (int i = 0; i < 12; i++) {
                 int host = dice.nextInt(3);
                 int day = dice.nextBoolean() && m.name[host] != -1 ? m.name[host] : m.born[host];
                 int p = 1 + dice.nextInt(11);
-                String away = "away " + word(p) + " from 0 " + day + " to 0 " + day + ";";
+                String away = "away " + Drawn.word(p) + " from 0 " + day + " to 0 " + day + ";";
                 if (text.length() + away.length() < 960) {
                     m.aways.add(new int[] {p, day, day});
                     text.append(away);
@@ -387,12 +312,9 @@ public final class SecretDaysTwin {
         SecretDays x = new SecretDays();
         for (int seed = 0; seed < towns; seed++) {
             Random dice = new Random(seed);
-            PlainTown m = new PlainTown();
-            String town = draw(m, dice, seed % 5 == 0 ? 12 : 6);
-            while (town.length() > 1000) {
-                m = new PlainTown();
-                town = draw(m, dice, 10);
-            }
+            Drawn drawn = new Drawn(dice, seed % 5 == 0 ? 12 : 6);
+            PlainTown m = drawn.plain;
+            String town = drawn.text;
             x = seed % 3 == 0 ? new SecretDays() : x;
             Due.feedText(x, town);
             due(town, "town", x.town(), 0);
